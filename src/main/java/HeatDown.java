@@ -289,7 +289,16 @@ public final class HeatDown {
         }
         int sum = 0;
         for (int hour = 0; hour < HOUR_COUNT; hour++) {
-            sum += winterHour(seed, days, hour, what);
+            // The warmth told is the same on all days, and so is the hour's plan.
+            planAsItIs(hour);
+            int brooks = plans.worth == NONE ? 0 : plans.bestBrooks;
+            int draws = plans.worth == NONE ? 0 : plans.bestDraws;
+            int x = seed;
+            for (int day = 0; day < days; day++) {
+                x = (75 * x + 74) % 65537;
+                course.follow(Math.max(0, now.springValue(WARMTH) - x % 200), hour, brooks, draws);
+                sum += what == 0 ? course.worthOfServed() : Integer.bitCount(course.harmed);
+            }
         }
         return sum;
     }
@@ -427,21 +436,6 @@ public final class HeatDown {
             most = Math.max(most, alike);
         }
         return most;
-    }
-
-    /** One hour through all days: its plan is the same on each, as the warmth told is. */
-    private int winterHour(int seed, int days, int hour, int what) {
-        planAsItIs(hour);
-        int brooks = plans.worth == NONE ? 0 : plans.bestBrooks;
-        int draws = plans.worth == NONE ? 0 : plans.bestDraws;
-        int x = seed;
-        int sum = 0;
-        for (int day = 0; day < days; day++) {
-            x = (75 * x + 74) % 65537;
-            course.follow(Math.max(0, now.springValue(WARMTH) - x % 200), hour, brooks, draws);
-            sum += what == 0 ? course.worthOfServed() : Integer.bitCount(course.harmed);
-        }
-        return sum;
     }
 
     // ---- rows and bits

@@ -273,6 +273,13 @@ public final class PromiseTests {
         pipeAndAir(190, 2000);
         pipeAndAir(191, 2020);
         pipeAndAir(0, 0);
+        // 2600 less 599 is one above AIR: all that the pipe can still take
+        x = Check.withLane("b9b");
+        x.spring(1, 130);
+        x.kind(0, 0, 0);
+        x.kind(0, 2, 599);
+        due("9: one above AIR", x.at(0, 0, 1, 1, 1), 2000);
+        due("10: one lost", x.run(0, 0, 1, 2), 1);
     }
 
     private static void pipeAndAir(int warmth, int want) {
@@ -766,7 +773,7 @@ public final class PromiseTests {
         winterDue(x, 0, 1, 0, 0);
         winterDue(x, 0, 2, 30, 0);
         winterDue(x, 0, 3, 30, 0);
-        x.kind(0, 0, 740);
+        x.kind(0, 0, 745);
         winterDue(x, 0, 4, 60, 0);
         x.kind(0, 4, 9);
         winterDue(x, 0, 4, 20, 0);
