@@ -44,4 +44,32 @@ final class Check {
         x.lane();
         return x;
     }
+
+    /** Like withLane, but of one litre, so that Q is WARMTH: no AIR, brooks of one litre of 0 tenths, all kinds willing. */
+    static HeatDown oneLitre(String lane, int warmth) {
+        HeatDown x = withLane(lane);
+        x.spring(0, 1);
+        x.spring(1, warmth);
+        x.spring(2, 0);
+        x.spring(3, 1);
+        x.spring(4, 0);
+        for (int kind = 0; kind < 6; kind++) {
+            values(x, kind, 0, 1000, 0, 1);
+        }
+        return x;
+    }
+
+    /** NEED, MOST, WANT, WORTH of a kind. */
+    static void values(HeatDown x, int kind, int need, int most, int want, int worth) {
+        x.kind(kind, 0, need);
+        x.kind(kind, 1, most);
+        x.kind(kind, 2, want);
+        x.kind(kind, 3, worth);
+    }
+
+    /** The pad holds that text alone. */
+    static void pad(HeatDown x, String text) {
+        x.wipe();
+        type(x, text);
+    }
 }

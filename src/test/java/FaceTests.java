@@ -1,3 +1,4 @@
+import java.lang.management.ManagementFactory;
 import java.lang.reflect.Constructor;
 import java.lang.reflect.Field;
 import java.lang.reflect.Member;
@@ -30,6 +31,7 @@ public final class FaceTests {
         methods();
         classesInside();
         manyCalls();
+        noObjects();
         if (args.length > 0) {
             source(Files.readString(Path.of(args[0])));
         }
@@ -74,6 +76,8 @@ public final class FaceTests {
             CHECK.holds(f.getName() + " is public or private", Modifier.isPublic(how) || Modifier.isPrivate(how));
             CHECK.holds(f.getName() + " is final if static", !Modifier.isStatic(how) || Modifier.isFinal(how));
         }
+        CHECK.holds("at most some twenty fields",
+            Arrays.stream(HeatDown.class.getDeclaredFields()).filter(FaceTests::isOwn).count() <= 20);
     }
 
     private static void classesInside() {
@@ -107,7 +111,44 @@ public final class FaceTests {
         }
     }
 
+    /** 600,000 objects are room for all calls of a run only if calls make none. */
+    private static void noObjects() {
+        if (!(ManagementFactory.getThreadMXBean() instanceof com.sun.management.ThreadMXBean counter)) {
+            return;
+        }
+        HeatDown x = Check.withLane("4l7h7r7*h4*b3*c4*d");
+        x.kind(4, 1, 900);
+        long thread = Thread.currentThread().getId();
+        counter.getThreadAllocatedBytes(thread);
+        long before = counter.getThreadAllocatedBytes(thread);
+        int sum = 0;
+        for (int i = 0; i < 15; i++) {
+            sum += x.spring(1, 700 + i) + x.kind(0, 3, i) + x.say('*') + x.fault(0) + x.fault(1) + x.lane() + x.wipe();
+            sum += x.house(0, 0) + x.at(0, 0, 0, 0, 0) + x.run(0, 0, 0, 0) + x.judge(0) + x.best(0, 0) + x.moss(0, 8, 0);
+            sum += x.cools(0, 0, 1) + x.put(0, 0, 0) + x.where(0, 0, 0) + x.order(0, 0) + x.felt(0, 0, 1000) + x.forget();
+            sum += x.fits(0, 0, 0) + x.door(0, 0, 0) + x.winter(i, 3, 0) + x.image(0) + x.restore(0) + x.told(0);
+        }
+        long made = counter.getThreadAllocatedBytes(thread) - before;
+        CHECK.holds("375 calls made " + made + " bytes of objects (their sum: " + sum + ")", made < 2000);
+    }
+
+    /** Methods of some sixty lines, by their first line and the brace that stands below it. */
+    private static void methodLengths(String[] lines) {
+        for (int i = 0; i < lines.length; i++) {
+            String indent = lines[i].substring(0, lines[i].length() - lines[i].stripLeading().length());
+            if (!lines[i].matches(" +[a-z][A-Za-z\\[\\] ]* [a-zA-Z]+\\(.*\\) \\{") || indent.length() > 8) {
+                continue;
+            }
+            int end = i;
+            while (end < lines.length && !lines[end].equals(indent + "}")) {
+                end++;
+            }
+            CHECK.holds("at most some sixty lines: " + lines[i].strip(), end - i < 60);
+        }
+    }
+
     private static void source(String text) {
+        methodLengths(text.split("\n"));
         StringBuilder code = new StringBuilder();
         for (String line : text.split("\n")) {
             String bare = line.strip();
