@@ -45,6 +45,7 @@ public final class PromiseTests {
         winterEdges();
         images();
         told();
+        readmeExample();
         CHECK.end();
     }
 
@@ -881,5 +882,22 @@ public final class PromiseTests {
         x.kind(5, 1, 321);
         due("25: AIR", x.told(12), 222);
         due("25: MOST of 5", x.told(35), 321);
+    }
+
+    /** What README.md shows. */
+    private static void readmeExample() {
+        HeatDown x = new HeatDown();
+        Check.type(x, "b2*h");
+        due("README: lane()", x.lane(), 2);
+        due("README: spring(1, 300)", x.spring(1, 300), 800);
+        due("README: at(0, 1, 0, 1, 0)", x.at(0, 1, 0, 1, 0), 25);
+        due("README: best(0, 0)", x.best(0, 0), 6);
+        due("README: best(0, 2)", x.best(0, 2), 2);
+        due("README: cools(0, 0, 2)", x.cools(0, 0, 2), 220);
+        due("README: felt(1, 230, 250)", x.felt(1, 230, 250), 1);
+        due("README: fits(0, 0, 0)", x.fits(0, 0, 0), 1);
+        Check.type(x, "B/AB/1B///");
+        due("README: judge(0)", x.judge(0), 1);
+        due("README: judge(1)", x.judge(1), 0);
     }
 }
